@@ -22,6 +22,8 @@ public final class ComeIfShe {
 
     private static final int MOST_GUESTS = 8;
     private static final int MOST_LISTS = 256;
+    /** Laid over a list ahead of its use as an index, so that it can be seen to lie inside. */
+    private static final int LIST_BITS = MOST_LISTS - 1;
     private static final int MOST_COST = 99;
     private static final int MANY = 4;
     private static final int MOST_BYTES = 60;
@@ -710,7 +712,7 @@ public final class ComeIfShe {
         }
 
         boolean termHolds(int guest, int by) {
-            int word = by / LISTS_OF_WORD % WORDS;
+            int word = (by & LIST_BITS) / LISTS_OF_WORD;
             return (terms[guest * WORDS + word] >>> by % LISTS_OF_WORD & 1L) != 0;
         }
 
@@ -735,14 +737,15 @@ public final class ComeIfShe {
 
         /** Those who would come by a list: the list one round later. */
         int comers(int by) {
-            if (known[by] == UNKNOWN) {
+            int at = by & LIST_BITS;
+            if (known[at] == UNKNOWN) {
                 int set = 0;
                 for (int g = 0; g < size; g++) {
-                    set |= wouldComeAs(kinds[g], g, by) ? 1 << g : 0;
+                    set |= wouldComeAs(kinds[g], g, at) ? 1 << g : 0;
                 }
-                known[by] = set;
+                known[at] = set;
             }
-            return known[by];
+            return known[at];
         }
 
         int comersAs(int guest, int kind, int by) {
@@ -971,9 +974,10 @@ public final class ComeIfShe {
          */
         int nearestSettled(Party party) {
             Arrays.fill(callsTo, UNSEEN);
-            queue[0] = party.list;
-            callsTo[party.list] = 0;
-            firstCalled[party.list] = NOBODY;
+            int start = party.list & LIST_BITS;
+            queue[0] = start;
+            callsTo[start] = 0;
+            firstCalled[start] = NOBODY;
             int waiting = 1;
             for (int head = 0; head < waiting && head < MOST_LISTS; head++) {
                 if (party.isSettled(queue[head])) {
@@ -987,7 +991,7 @@ public final class ComeIfShe {
         private int callAll(Party party, int from, int waiting) {
             int end = waiting;
             for (int g = 0; g < party.size; g++) {
-                int to = party.called(g, from);
+                int to = party.called(g, from) & LIST_BITS;
                 if (callsTo[to] == UNSEEN && end < MOST_LISTS) {
                     callsTo[to] = callsTo[from] + 1;
                     firstCalled[to] = callsTo[from] == 0 ? g : firstCalled[from];
@@ -999,11 +1003,11 @@ public final class ComeIfShe {
         }
 
         int callsTo(int goal) {
-            return callsTo[goal];
+            return callsTo[goal & LIST_BITS];
         }
 
         int firstCalledTo(int goal) {
-            return firstCalled[goal];
+            return firstCalled[goal & LIST_BITS];
         }
     }
 
@@ -1055,7 +1059,7 @@ public final class ComeIfShe {
 
         /** For numbers that holdsOnly() has seen to be lists. */
         int listAt(int i) {
-            return (int) bitsAt(i) & MOST_LISTS - 1;
+            return (int) bitsAt(i) & LIST_BITS;
         }
     }
 }
