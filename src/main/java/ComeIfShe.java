@@ -925,7 +925,9 @@ public final class ComeIfShe {
         private long listsWhereOthers(int sign, int digit) {
             long holds = 0;
             for (int i = 0; i < LISTS_OF_WORD; i++) {
-                int others = othersOn(teller, word * LISTS_OF_WORD + i);
+                int list = word * LISTS_OF_WORD + i;
+                // Not by othersOn(): a term's reading stands deep in calls already.
+                int others = Integer.bitCount(list & ~(1 << teller));
                 boolean so = sign == '<' ? others < digit
                     : sign == '=' ? others == digit : others > digit;
                 holds |= so ? 1L << i : 0L;

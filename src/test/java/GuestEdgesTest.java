@@ -60,6 +60,12 @@ public final class GuestEdgesTest {
             edges.due("the list stays", x.now(0), 1);
             edges.due("none has told a term", x.count(3), 0);
         }
+        ComeIfShe asked = new ComeIfShe();
+        for (int g = 0; g < 8; g++) {
+            edges.due("who would come ahead of guest " + g, asked.now(2), (1 << g) - 1);
+            asked.guest(0, 0);
+            edges.due("and behind", asked.now(2), (2 << g) - 1);
+        }
         ComeIfShe y = Edges.party("0", "0");
         y.image();
         y.guest(3, 5);
@@ -220,6 +226,8 @@ public final class GuestEdgesTest {
         edges.due("empty then", x.count(1), 0);
         edges.due("it holds", x.of(7, 4), 1);
         edges.due("no other's", x.now(2), 128);
+        edges.due("another one", Edges.tell(x, 7, "0"), 1);
+        edges.due("nobody would come now", x.now(2), 0);
         edges.due("sixty bytes", Edges.tell(x, 0, Edges.sixty()), 1);
         edges.due("empty then", x.count(1), 0);
         edges.due("it holds", x.of(0, 4), 1);

@@ -78,6 +78,9 @@ public final class SettleEdgesTest {
         edges.due("each once", Edges.eight("1").fewest(), 8);
         ComeIfShe chain = Edges.party("b", "c", "d", "e", "f", "g", "h", "1");
         edges.due("a chain backwards", chain.fewest(), 8);
+        ComeIfShe leave = Edges.eight("0");
+        leave.list(255);
+        edges.due("each once, till nobody is left", leave.fewest(), 8);
         edges.onlyAsks("fewest()", y -> y.fewest());
         for (int from = 0; from < 256; from += 64) {
             ComeIfShe x = Edges.party(Edges.grayCode());
@@ -99,6 +102,9 @@ public final class SettleEdgesTest {
         edges.due("the greatest of all", Edges.party("b", "c", "d", "e", "f", "g", "h", "1").first(), 7);
         edges.due("not one whose call leads elsewhere", Edges.party("!b", "1").first(), 1);
         edges.due("nor one who changes nothing", Edges.party("0", "1").first(), 1);
+        ComeIfShe leave = Edges.eight("0");
+        leave.list(192);
+        edges.due("of two who leave the least, till nobody is left", leave.first(), 6);
         edges.onlyAsks("first()", y -> y.first());
         for (int from = 0; from < 256; from += 64) {
             ComeIfShe x = Edges.party(Edges.grayCode());
@@ -174,6 +180,7 @@ public final class SettleEdgesTest {
         edges.due("of nobody", nobody.sure(1), 0);
         edges.due("of all lists", all.sure(1), 255);
         edges.due("of the full one", full.sure(1), 255);
+        edges.due("of two of whom one comes", Edges.party("!b", "!a").sure(1), 3);
         edges.due("of the empty one", empty.sure(1), 0);
         edges.says(22, "2 the greatest number on one");
         edges.due("of nobody", nobody.sure(2), 0);

@@ -234,7 +234,9 @@ public final class WhomEdgesTest {
         edges.due("nobody minds", Edges.eight("1").minds(0), 0);
         edges.due("all others mind", Edges.eight("h").minds(7), 127);
         edges.due("none but the one", Edges.eight("h").minds(6), 0);
-        edges.due("by one list alone", Edges.eight("n=7").minds(3), 255 - 8);
+        edges.due("by the full list alone", Edges.eight("n=7").minds(3), 255 - 8);
+        edges.due("by the empty list alone", Edges.eight("n=0").minds(3), 255 - 8);
+        edges.due("by one in between", Edges.party("b&!c&d", null, null, null).minds(1), 1);
         ComeIfShe eager = Edges.party("0", null, null, null);
         eager.turn(0, 1);
         edges.due("never four others of four", eager.minds(1), 0);
