@@ -33,6 +33,7 @@ public final class RulesTest {
         String text = Files.readString(Path.of(SOURCE));
         words(withoutComments(text));
         methods(text);
+        headings(text);
         System.out.println(wrong == 0 ? "the rules are kept" : wrong + " rules are broken");
         if (wrong != 0) {
             System.exit(1);
@@ -154,5 +155,26 @@ public final class RulesTest {
                 name = null;
             }
         }
+    }
+
+    /** The calls stand in the document's order, under the headings that it tells. */
+    private static void headings(String text) throws Exception {
+        Matcher told = Pattern.compile("Ahead of the calls (.*) the interface says: (---- .*)\\.")
+            .matcher(Files.readString(Path.of(DOCUMENT)));
+        int seen = 0;
+        while (told.find()) {
+            seen++;
+            String heading = "// " + told.group(2) + "\n";
+            int start = text.indexOf(heading);
+            must(start >= 0, "no heading " + heading);
+            int end = text.indexOf("// ----", start + heading.length());
+            Matcher calls = Pattern.compile("(?m)^    public \\w+ (\\w+)\\(").matcher(text).region(Math.max(start, 0), end);
+            StringBuilder got = new StringBuilder();
+            while (calls.find()) {
+                got.append(got.length() == 0 ? "`" : ", `").append(calls.group(1)).append('`');
+            }
+            must(got.toString().equals(told.group(1)), "under " + heading + " stand " + got + ", due is " + told.group(1));
+        }
+        must(seen == 6, "the document tells " + seen + " headings");
     }
 }
